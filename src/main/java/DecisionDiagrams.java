@@ -226,18 +226,18 @@ public final class DecisionDiagrams {
     public int paths(int f, int leaf) throws IndexOutOfBoundsException, IllegalArgumentException {
         needFunction(f);
         needLeaf(leaf);
-        return drawing().countPaths(diagram.roots[f], leaf, 0);
+        return drawing().pathsOf(f, leaf);
     }
 
     public int shortest(int f, int leaf) throws IndexOutOfBoundsException, IllegalArgumentException {
         needFunction(f);
         needLeaf(leaf);
-        return drawing().fewestNodes(diagram.roots[f], leaf, 0);
+        return drawing().fewestNodesOf(f, leaf);
     }
 
     public int longest(int f) throws IndexOutOfBoundsException {
         needFunction(f);
-        return drawing().mostNodes(diagram.roots[f], 0);
+        return drawing().mostNodesOf(f);
     }
 
     public int cheapest(int f) throws IndexOutOfBoundsException {
@@ -257,7 +257,7 @@ public final class DecisionDiagrams {
 
     public double chance(int f) throws IndexOutOfBoundsException {
         needFunction(f);
-        return drawing().chanceOf(diagram.roots[f], state.percents, 0);
+        return drawing().chanceOf(f, state.percents);
     }
 
     // ---- two functions
@@ -301,7 +301,7 @@ public final class DecisionDiagrams {
     public int pairs(int f, int g) throws IndexOutOfBoundsException {
         needFunction(f);
         needFunction(g);
-        return drawing().countPairs(diagram.roots[f], diagram.roots[g]);
+        return drawing().pairsOf(f, g);
     }
 
     public int sizeOf(int operator, int f, int g) throws IndexOutOfBoundsException, IllegalArgumentException {
@@ -1169,14 +1169,22 @@ public final class DecisionDiagrams {
             return found;
         }
 
-        int countPaths(int node, int leaf, int depth) {
+        int pathsOf(int f, int leaf) {
+            return countPaths(roots[f], leaf, 0);
+        }
+
+        private int countPaths(int node, int leaf, int depth) {
             if (node < LEAVES || depth > MAX_VARIABLES) {
                 return node == leaf ? 1 : 0;
             }
             return countPaths(low[node], leaf, depth + 1) + countPaths(high[node], leaf, depth + 1);
         }
 
-        int fewestNodes(int node, int leaf, int depth) {
+        int fewestNodesOf(int f, int leaf) {
+            return fewestNodes(roots[f], leaf, 0);
+        }
+
+        private int fewestNodes(int node, int leaf, int depth) {
             if (node < LEAVES || depth > MAX_VARIABLES) {
                 return node == leaf ? 0 : NONE;
             }
@@ -1188,27 +1196,35 @@ public final class DecisionDiagrams {
             return below == NONE ? NONE : below + 1;
         }
 
-        int mostNodes(int node, int depth) {
+        int mostNodesOf(int f) {
+            return mostNodes(roots[f], 0);
+        }
+
+        private int mostNodes(int node, int depth) {
             if (node < LEAVES || depth > MAX_VARIABLES) {
                 return 0;
             }
             return 1 + Math.max(mostNodes(low[node], depth + 1), mostNodes(high[node], depth + 1));
         }
 
-        double chanceOf(int node, int[] percents, int depth) {
+        double chanceOf(int f, int[] percents) {
+            return chanceAt(roots[f], percents, 0);
+        }
+
+        private double chanceAt(int node, int[] percents, int depth) {
             if (node < LEAVES || depth > MAX_VARIABLES) {
                 return node == 1 ? 1.0 : 0.0;
             }
             double p = (double) percents[order[levels[node]]] / 100.0;
-            double l = chanceOf(low[node], percents, depth + 1);
-            double h = chanceOf(high[node], percents, depth + 1);
+            double l = chanceAt(low[node], percents, depth + 1);
+            double h = chanceAt(high[node], percents, depth + 1);
             return (1.0 - p) * l + p * h;
         }
 
-        int countPairs(int first, int second) {
+        int pairsOf(int f, int g) {
             Arrays.fill(slots, 0);
             pairs = 0;
-            meet(first, second);
+            meet(roots[f], roots[g]);
             for (int i = 0; i < MAX_PAIRS && i < pairs; i++) {
                 follow(met[i] / MAX_NODES, met[i] % MAX_NODES);
             }
