@@ -39,6 +39,7 @@ final class CountsTest {
         counts("after undo", x, 3, 6, 11, 3, 5, 2, 4);
         counts("no function", Texts.system("vars a b;"), 2, 0, 0, 0, 0, 0, 0);
         counts("b alone", Texts.system("vars a b c;let f b;let g !b;let h b;"), 3, 3, 2, 1, 2, 0, 0);
+        counts("1 and a", Texts.system("vars a;let f 1;let g a;"), 1, 2, 1, 1, 2, 1, 0);
         counts("a and c", Texts.system("vars a b c;let f a=c;let g 1;let h 1;let i 0;"), 3, 4, 3, 2, 3, 3, 0);
         for (int change = 1; change <= 10; change++) {
             x.setCost(0, change);
@@ -130,6 +131,9 @@ final class CountsTest {
         Check.equal("odd then", Texts.find(x, "odd"), 0);
         Texts.put(x, "maj");
         Check.raises("maj is dropped", NoSuchElementException.class, x::find);
+        Texts.script(x, "let z a;");
+        Check.equal("the last letter", Texts.find(x, "z"), 2);
+        x.drop(2);
         Texts.script(x, "let abcdefg a;");
         Check.equal("7 letters", Texts.find(x, "abcdefg"), 2);
         Texts.put(x, "abcdefgh");

@@ -45,13 +45,10 @@ final class DenseTest {
 
     private static void put(String text) {
         Texts.put(x, text);
-        byte[] bytes = text.getBytes(java.nio.charset.StandardCharsets.ISO_8859_1);
-        for (int from = 0; from < bytes.length; from += 20) {
-            byte[] part = java.util.Arrays.copyOfRange(bytes, from, from + 20);
-            reference.append(Texts.four(part, 0), Texts.four(part, 4), Texts.four(part, 8), Texts.four(part, 12),
-                    Texts.four(part, 16));
+        for (int[] part : Texts.appends(text)) {
+            reference.append(part[0], part[1], part[2], part[3], part[4]);
         }
-        reference.truncate(bytes.length);
+        reference.truncate(text.length());
     }
 
     /** A text has room for half of the values of such a function. */

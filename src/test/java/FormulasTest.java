@@ -21,6 +21,7 @@ final class FormulasTest {
         formula("(a)", A);
         formula("if(a,b,c)", "00011011");
         formula("if(c,0,a)", "01010000");
+        formula("if(a=b,b=c,c>a)", "11100101");
         bindings();
         quantifiers();
         eightVariables();

@@ -1,6 +1,5 @@
 import java.lang.reflect.InvocationTargetException;
 import java.lang.reflect.Method;
-import java.nio.charset.StandardCharsets;
 import java.util.ArrayList;
 import java.util.Arrays;
 import java.util.List;
@@ -111,16 +110,13 @@ final class RandomRunsTest {
 
     private boolean text(String text, String reader) throws ReflectiveOperationException {
         boolean right = call("truncate", 0);
-        byte[] bytes = text.getBytes(StandardCharsets.ISO_8859_1);
-        for (int from = 0; from < bytes.length; from += 20) {
-            byte[] part = Arrays.copyOfRange(bytes, from, from + 20);
-            right = right && call("append", Texts.four(part, 0), Texts.four(part, 4), Texts.four(part, 8),
-                    Texts.four(part, 12), Texts.four(part, 16));
+        for (int[] part : Texts.appends(text)) {
+            right = right && call("append", part[0], part[1], part[2], part[3], part[4]);
         }
         if (random.nextInt(15) == 0) {
             right = right && call("append", 0x20202020, 0x20202020, 0x20202020, 0x20202020, 0x20202020);
         }
-        right = right && call("truncate", bytes.length);
+        right = right && call("truncate", text.length());
         calls.add("  \"" + text + "\"");
         return right && call(reader) && call("errorCode") && call("errorPosition");
     }

@@ -73,6 +73,9 @@ final class TextErrorsTest {
         system("vars a;", 0, -1);
         system("let f 1;", 1, 0);
         system("Vars a;", 1, 0);
+        system("wars a;", 1, 0);
+        system("vart a;", 1, 0);
+        system("varsa;", 1, 0);
         system("vars a;;", 1, 7);
         system("vars a;vars b;", 1, 7);
         system("vars vars let cost percent;let drop vars&let|cost^percent;cost let 5;", 0, -1);
@@ -138,6 +141,12 @@ final class TextErrorsTest {
     }
 
     private static void scriptStatements() {
+        for (String word : new String[] {"let x a", "cost a 1", "percent a 1", "drop maj", "swap 0", "move a 0", "sift a",
+            "siftall"}) {
+            right(word + ";");
+            script("x" + word.substring(1) + ";", 1, 0);
+            script(word.substring(1) + ";", 1, 0);
+        }
         script("", 0, -1);
         script(" \n", 0, -1);
         script(";", 1, 0);
@@ -268,6 +277,10 @@ final class TextErrorsTest {
         formula(twenty + "a(" + closed + ";", 1, 21);
         formula("if(".repeat(20) + "a" + ",b,c)".repeat(20) + ";", 0, -1);
         formula("if(".repeat(20) + "(a)" + ",b,c)".repeat(20) + ";", 5, 60);
+        formula("if(a,".repeat(20) + "b" + ",c)".repeat(20) + ";", 0, -1);
+        formula("if(a,".repeat(20) + "(b)" + ",c)".repeat(20) + ";", 5, 100);
+        formula("if(a,b,".repeat(20) + "c" + ")".repeat(20) + ";", 0, -1);
+        formula("if(a,b,".repeat(20) + "(c)" + ")".repeat(20) + ";", 5, 140);
         formula("!(".repeat(20) + "!!!a" + closed + ";", 0, -1);
         formula("(" + twenty + "a", 5, 20);
     }
@@ -280,6 +293,9 @@ final class TextErrorsTest {
         Check.equal("591 times not", Texts.values(x, 3), "10101010");
         Texts.script(x, "let h " + "some a ".repeat(83) + "!" + "a;");
         Check.equal("83 times some a", Texts.values(x, 4), "11111111");
+        Texts.put(x, "let i " + "!".repeat(594));
+        Check.raises("594 times not, of nothing", IllegalArgumentException.class, x::script);
+        Texts.script(x, "let i !!!!!!!!!a;drop i;");
         String waiting = "1=1>0|0^1&";
         Texts.script(x, "let i " + ("if(0,1," + waiting).repeat(20) + waiting + "a" + ")".repeat(20) + ";");
         Check.equal("all that can wait for an operand", Texts.values(x, 5), "01010101");

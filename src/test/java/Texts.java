@@ -1,5 +1,7 @@
 import java.nio.charset.StandardCharsets;
+import java.util.ArrayList;
 import java.util.Arrays;
+import java.util.List;
 
 /** Puts texts into the input buffer of an object, and takes out what it wrote. */
 final class Texts {
@@ -9,15 +11,24 @@ final class Texts {
     /** Makes the buffer hold just this text; each character is a byte. */
     static void put(DecisionDiagrams x, String text) {
         x.truncate(0);
+        for (int[] part : appends(text)) {
+            x.append(part[0], part[1], part[2], part[3], part[4]);
+        }
+        x.truncate(text.length());
+    }
+
+    /** The arguments of the calls of append that bring a text into an empty buffer, with some bytes too many. */
+    static List<int[]> appends(String text) {
+        List<int[]> appends = new ArrayList<>();
         byte[] bytes = text.getBytes(StandardCharsets.ISO_8859_1);
         for (int from = 0; from < bytes.length; from += 20) {
             byte[] part = Arrays.copyOfRange(bytes, from, from + 20);
-            x.append(four(part, 0), four(part, 4), four(part, 8), four(part, 12), four(part, 16));
+            appends.add(new int[] {four(part, 0), four(part, 4), four(part, 8), four(part, 12), four(part, 16)});
         }
-        x.truncate(bytes.length);
+        return appends;
     }
 
-    static int four(byte[] bytes, int from) {
+    private static int four(byte[] bytes, int from) {
         int four = 0;
         for (int i = from; i < from + 4; i++) {
             four = four << 8 | bytes[i] & 255;

@@ -96,6 +96,10 @@ final class ValuesTest {
             }
         }
         Check.equal("odd", new DecisionDiagrams().polarity(1, 2), 3);
+        DecisionDiagrams y = Texts.system("vars a b c;let f a&b&c;let g !a&b&c;let h if(b,c&a,c&!a);");
+        Check.equal("just one rise", y.polarity(0, 0), 1);
+        Check.equal("just one fall", y.polarity(1, 0), 2);
+        Check.equal("one of each", y.polarity(2, 0), 3);
         for (int f : NO_FUNCTIONS) {
             Check.raises("polarity(" + f + ", 0)", IndexOutOfBoundsException.class, () -> x.polarity(f, 0));
         }
