@@ -2,6 +2,9 @@
 final class Check {
     private static final int MOST_TOLD = 40;
 
+    /** Stands ahead of what is told. */
+    static String context = "";
+
     private static int passed;
     private static int failed;
 
@@ -42,8 +45,12 @@ final class Check {
         }
         failed++;
         if (failed <= MOST_TOLD) {
-            System.out.println("wrong: " + otherwise);
+            System.out.println("wrong: " + context + otherwise);
         }
+    }
+
+    static int count() {
+        return passed + failed;
     }
 
     static void finish(String name) {
