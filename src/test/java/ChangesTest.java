@@ -1,3 +1,6 @@
+import java.util.List;
+import java.util.function.Consumer;
+
 /** Promises 45 to 50, and terms 4: costs, percentages, scripts, undo and saved states. */
 final class ChangesTest {
     public static void main(String[] args) {
@@ -147,27 +150,27 @@ final class ChangesTest {
     }
 
     private static void undoOfEachKind() {
-        DecisionDiagrams x = new DecisionDiagrams();
-        Runnable[] changes = {() -> x.combine(0, 0, 1), () -> x.choose(0, 1, 0), () -> x.negate(1),
-            () -> x.restrict(0, 0, true), () -> x.quantify(0, 2, true), () -> x.compose(0, 1, 1), () -> x.drop(0),
-            () -> x.swap(0), () -> x.move(2, 0), () -> x.sift(1), x::siftAll, () -> x.setCost(1, 5),
-            () -> x.setPercent(1, 6), () -> Texts.script(x, "let z a;cost c 9;drop odd;")};
-        for (Runnable change : changes) {
-            String before = state(x);
-            int left = x.count(6);
-            change.run();
-            Check.equal("one more", x.count(6), left + 1);
-            String after = state(x);
-            Check.equal("one less", x.undo(), left);
-            Check.equal("undone", state(x), before);
-            change.run();
-            Check.equal("done again", state(x), after);
-            x.undo();
-            Texts.script(x, "move b 0;cost a 3;let other maj&!odd;");
-            x.save(0);
-            x.restore(0);
-            Texts.script(x, "drop other;");
+        List<Consumer<DecisionDiagrams>> changes = List.of(x -> x.combine(0, 0, 1), x -> x.choose(0, 1, 0),
+                x -> x.negate(1), x -> x.restrict(0, 0, true), x -> x.quantify(0, 2, true), x -> x.compose(0, 1, 1),
+                x -> x.drop(0), x -> x.swap(0), x -> x.move(2, 0), x -> x.sift(1), DecisionDiagrams::siftAll,
+                x -> x.setCost(1, 5), x -> x.setPercent(1, 6), x -> Texts.script(x, "let z a;cost c 9;drop odd;"));
+        for (Consumer<DecisionDiagrams> change : changes) {
+            DecisionDiagrams x = changedOnce();
+            change.accept(x);
+            Check.equal("one more", x.count(6), 2);
+            Check.equal("one less", x.undo(), 1);
+            Check.equal("undone", Seen.STATE.of(x), Seen.STATE.of(changedOnce()));
+            change.accept(x);
+            DecisionDiagrams y = changedOnce();
+            change.accept(y);
+            Check.equal("done again", Seen.STATE.of(x), Seen.STATE.of(y));
         }
+    }
+
+    private static DecisionDiagrams changedOnce() {
+        DecisionDiagrams x = new DecisionDiagrams();
+        Texts.script(x, "move b 0;cost a 3;let other maj&!odd;");
+        return x;
     }
 
     private static void whatUndoLeaves() {

@@ -1,64 +1,49 @@
+import java.lang.reflect.InvocationTargetException;
+import java.lang.reflect.Method;
+import java.util.ArrayList;
+import java.util.Arrays;
+import java.util.List;
 import java.util.Random;
 
-/** All promises at the limits of room: 12 functions of 8 variables without any order in their values. */
+/**
+ * All promises at the limits of room: 12 functions of 8 variables without any order in their values. An object is made
+ * anew for each row of questions, so that none of them is its 513th call.
+ */
 final class DenseTest {
     private static final int MOST_NODES_OF_A_FUNCTION = 77;
     private static final int MANY_NODES = 560;
+    private static final int QUESTIONS_OF_AN_OBJECT = 250;
+    /** Seeds with which the diagram is about as large as can be. */
+    private static final int[] SEEDS = {150, 202, 1072};
 
-    private static final Random RANDOM = new Random(7);
+    private record Question(String name, int... arguments) {
+    }
 
-    private static DecisionDiagrams x;
-    private static Reference reference;
-    private static int largestFunction;
-    private static int largestDiagram;
+    private final Random random;
+    private final List<String> scripts = new ArrayList<>();
+    private final int swapped;
+    private final Reference reference = new Reference();
+
+    private DenseTest(int seed) {
+        random = new Random(seed);
+        swapped = seed % 7;
+        for (String name : new String[] {"i", "j", "k"}) {
+            scripts.add("let half " + choices("bcd") + ";");
+            scripts.add("let rest " + choices("bcd") + ";");
+            scripts.add("let " + name + " if(a,half,rest);drop half;drop rest;");
+        }
+        make(reference);
+    }
 
     public static void main(String[] args) {
-        for (int round = 0; round < 4; round++) {
-            x = new DecisionDiagrams();
-            reference = new Reference();
-            load("vars a b c d e f g h;");
-            for (int f = 0; f < 10; f++) {
-                addFunction((char) ('i' + f));
-            }
-            Check.equal("choose", x.choose(0, 1, 2), reference.choose(0, 1, 2));
-            Check.equal("combine", x.combine(2, 3, 4), reference.combine(2, 3, 4));
-            compare();
-            Check.equal("swap", x.swap(round), reference.swap(round));
-            compare();
+        for (int seed : SEEDS) {
+            new DenseTest(seed).compare();
         }
-        Check.equal("the largest function", largestFunction, MOST_NODES_OF_A_FUNCTION);
-        Check.report(largestDiagram > MANY_NODES, "the largest diagram has " + largestDiagram);
-        Check.equal("siftAll", x.siftAll(), reference.siftAll());
-        compareFunctions();
         Check.finish("DenseTest");
     }
 
-    private static void load(String text) {
-        put(text);
-        Check.equal("load", x.load(), reference.load());
-    }
-
-    private static void script(String text) {
-        put(text);
-        Check.equal("script", x.script(), reference.script());
-    }
-
-    private static void put(String text) {
-        Texts.put(x, text);
-        for (int[] part : Texts.appends(text)) {
-            reference.append(part[0], part[1], part[2], part[3], part[4]);
-        }
-        reference.truncate(text.length());
-    }
-
     /** A text has room for half of the values of such a function. */
-    private static void addFunction(char name) {
-        script("let half " + choices("bcd") + ";");
-        script("let rest " + choices("bcd") + ";");
-        script("let " + name + " if(a,half,rest);drop half;drop rest;");
-    }
-
-    private static String choices(String variables) {
+    private String choices(String variables) {
         if (variables.isEmpty()) {
             return sum();
         }
@@ -67,10 +52,10 @@ final class DenseTest {
     }
 
     /** Each function of e, f, g and h is a sum of products in just one way. */
-    private static String sum() {
-        StringBuilder sum = new StringBuilder(RANDOM.nextBoolean() ? "1" : "0");
+    private String sum() {
+        StringBuilder sum = new StringBuilder(random.nextBoolean() ? "1" : "0");
         for (int product = 1; product < 16; product++) {
-            if (RANDOM.nextBoolean()) {
+            if (random.nextBoolean()) {
                 char sign = '^';
                 for (int factor = 0; factor < 4; factor++) {
                     if ((product >> factor & 1) == 1) {
@@ -83,48 +68,121 @@ final class DenseTest {
         return sum.toString();
     }
 
-    private static void compare() {
-        largestDiagram = Math.max(largestDiagram, x.count(2));
-        for (int what = 0; what < 7; what++) {
-            Check.equal("count", x.count(what), reference.count(what));
+    private static int call(Object object, String name, int... arguments) {
+        Class<?>[] types = new Class<?>[arguments.length];
+        Arrays.fill(types, int.class);
+        try {
+            Method method = object.getClass().getMethod(name, types);
+            return (int) method.invoke(object, Arrays.stream(arguments).boxed().toArray());
+        } catch (IllegalAccessException | NoSuchMethodException | InvocationTargetException e) {
+            throw new IllegalStateException(name, e);
         }
-        for (int node = 0; node < x.count(2) + 2; node += 1 + node / 20) {
-            for (int what = 0; what < 6; what++) {
-                Check.equal("node", x.node(node, what), reference.node(node, what));
-            }
-        }
-        for (int level = 0; level < 8; level++) {
-            Check.equal("width", x.width(level), reference.width(level));
-            Check.equal("sizeIf", x.sizeIf(3, level), reference.sizeIf(3, level));
-        }
-        compareFunctions();
     }
 
-    private static void compareFunctions() {
-        for (int f = 0; f < x.count(1); f++) {
-            largestFunction = Math.max(largestFunction, x.function(f, 1));
-            int last = x.count(1) - 1 - f;
-            for (int what = 0; what < 4; what++) {
-                Check.equal("function", x.function(f, what), reference.function(f, what));
+    private static void put(Object object, String text) {
+        for (int[] part : Texts.appends(text)) {
+            call(object, "append", part);
+        }
+        call(object, "truncate", text.length());
+    }
+
+    /** Makes three such functions and nine combinations of them, and another order. */
+    private void make(Object object) {
+        put(object, "vars a b c d e f g h;");
+        call(object, "load");
+        for (String script : scripts) {
+            put(object, script);
+            call(object, "script");
+        }
+        call(object, "combine", 2, 0, 1);
+        call(object, "combine", 2, 0, 2);
+        call(object, "combine", 2, 1, 2);
+        call(object, "combine", 4, 3, 2);
+        call(object, "combine", 0, 0, 1);
+        call(object, "combine", 1, 1, 2);
+        call(object, "combine", 5, 2, 0);
+        call(object, "choose", 0, 1, 2);
+        call(object, "choose", 2, 0, 1);
+        call(object, "swap", swapped);
+    }
+
+    private void ask(List<Question> questions) {
+        for (int from = 0; from < questions.size(); from += QUESTIONS_OF_AN_OBJECT) {
+            DecisionDiagrams x = new DecisionDiagrams();
+            make(x);
+            int end = Math.min(questions.size(), from + QUESTIONS_OF_AN_OBJECT);
+            for (Question question : questions.subList(from, end)) {
+                Check.equal(question.name() + Arrays.toString(question.arguments()),
+                        call(x, question.name(), question.arguments()),
+                        call(reference, question.name(), question.arguments()));
             }
+        }
+    }
+
+    private void compare() {
+        int size = reference.count(2);
+        Check.report(size > MANY_NODES, "the diagram has " + size + " nodes");
+        int largest = 0;
+        for (int f = 0; f < 12; f++) {
+            largest = Math.max(largest, reference.function(f, 1));
+        }
+        Check.equal("the largest function", largest, MOST_NODES_OF_A_FUNCTION);
+        List<Question> questions = new ArrayList<>();
+        add(questions, "count", 7);
+        for (int node = 0; node < size + 2; node += 1 + node / 20) {
+            add(questions, "node", node, 6);
+        }
+        for (int variable = 0; variable < 8; variable++) {
+            add(questions, "variable", variable, 6);
+            add(questions, "sizeIf", variable, 8);
+        }
+        add(questions, "width", 8);
+        add(questions, "bestLevel", 8);
+        for (int f = 0; f < 12; f++) {
+            addFunction(questions, f);
+        }
+        ask(questions);
+        askForTexts();
+        ask(List.of(new Question("siftAll"), new Question("variableAt", 0), new Question("node", 300, 3),
+                new Question("function", 11, 1), new Question("undo"), new Question("undo")));
+    }
+
+    /** Asks a call for all last arguments from 0 on. */
+    private static void add(List<Question> questions, String name, int count) {
+        for (int last = 0; last < count; last++) {
+            questions.add(new Question(name, last));
+        }
+    }
+
+    private static void add(List<Question> questions, String name, int first, int count) {
+        for (int last = 0; last < count; last++) {
+            questions.add(new Question(name, first, last));
+        }
+    }
+
+    private static void addFunction(List<Question> questions, int f) {
+        add(questions, "function", f, 4);
+        add(questions, "paths", f, 2);
+        add(questions, "shortest", f, 2);
+        add(questions, "polarity", f, 8);
+        add(questions, "influence", f, 8);
+        add(questions, "pairs", f, 12);
+        add(questions, "common", f, 12);
+        add(questions, "difference", f, 12);
+        questions.add(new Question("longest", f));
+        questions.add(new Question("twin", f));
+        questions.add(new Question("sizeOf", f % 6, f, 11 - f));
+    }
+
+    private void askForTexts() {
+        for (int f = 0; f < 12; f += 5) {
             int length = reference.writeFunction(f);
-            Check.equal("writeFunction", x.writeFunction(f), length);
-            for (int index = 0; index < length; index++) {
-                Check.equal("textByte", x.textByte(index), reference.textByte(index));
-            }
-            for (int leaf = 0; leaf < 2; leaf++) {
-                Check.equal("paths", x.paths(f, leaf), reference.paths(f, leaf));
-                Check.equal("shortest", x.shortest(f, leaf), reference.shortest(f, leaf));
-            }
-            Check.equal("longest", x.longest(f), reference.longest(f));
-            Check.exactly("chance", x.chance(f), reference.chance(f));
-            Check.equal("pairs", x.pairs(f, last), reference.pairs(f, last));
-            Check.equal("common", x.common(f, last), reference.common(f, last));
-            Check.equal("difference", x.difference(f, last), reference.difference(f, last));
-            Check.equal("sizeOf", x.sizeOf(2, f, last), reference.sizeOf(2, f, last));
-            for (int variable = 0; variable < 8; variable++) {
-                Check.equal("polarity", x.polarity(f, variable), reference.polarity(f, variable));
-                Check.equal("influence", x.influence(f, variable), reference.influence(f, variable));
+            for (int from = 0; from < length; from += QUESTIONS_OF_AN_OBJECT - 1) {
+                List<Question> questions = new ArrayList<>(List.of(new Question("writeFunction", f)));
+                for (int index = from; index < Math.min(length, from + QUESTIONS_OF_AN_OBJECT - 1); index++) {
+                    questions.add(new Question("textByte", index));
+                }
+                ask(questions);
             }
         }
     }

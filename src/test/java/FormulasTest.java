@@ -1,3 +1,5 @@
+import java.util.function.IntUnaryOperator;
+
 /** Terms 3, for the promises 4 and 47: the values of formulas, and what binds more. */
 final class FormulasTest {
     private static final String A = "01010101";
@@ -95,22 +97,23 @@ final class FormulasTest {
 
     /** The seventh and the eighth variable, too. */
     private static void eightVariables() {
-        DecisionDiagrams x = Texts.system("vars a b c d e f g h;let p a^b^c^d^e^f^g^h;let q all h (g|h);"
-                + "let r some g (g&h&a);let s if(h,g,f);let t all g some h (h^g);let u !h>g;");
-        for (int assignment = 0; assignment < 256; assignment++) {
-            int g = assignment >> 6 & 1;
-            int h = assignment >> 7;
-            Check.equal("p", x.value(0, assignment), Integer.bitCount(assignment) & 1);
-            Check.equal("q", x.value(1, assignment), g);
-            Check.equal("r", x.value(2, assignment), h & assignment & 1);
-            Check.equal("s", x.value(3, assignment), h == 1 ? g : assignment >> 5 & 1);
-            Check.equal("t", x.value(4, assignment), 1);
-            Check.equal("u", x.value(5, assignment), h | g);
-        }
+        ofEight("a^b^c^d^e^f^g^h", assignment -> Integer.bitCount(assignment) & 1);
+        ofEight("all h (g|h)", assignment -> assignment >> 6 & 1);
+        ofEight("some g (g&h&a)", assignment -> assignment >> 7 & assignment & 1);
+        ofEight("if(h,g,f)", assignment -> assignment >> (assignment > 127 ? 6 : 5) & 1);
+        ofEight("all g some h (h^g)", assignment -> 1);
+        ofEight("!h>g", assignment -> assignment > 63 ? 1 : 0);
         DecisionDiagrams y = Texts.system("vars a b c d e f g;let p all g (g|f);let q g^a;");
         Check.equal("models with 7 variables", y.function(0, 2), 64);
         Check.equal("models with 7 variables", y.function(1, 2), 64);
         Check.equal("support with 7 variables", y.support(1), 65);
+    }
+
+    private static void ofEight(String formula, IntUnaryOperator due) {
+        DecisionDiagrams x = Texts.system("vars a b c d e f g h;let p " + formula + ";");
+        for (int assignment = 0; assignment < 256; assignment++) {
+            Check.equal(formula, x.value(0, assignment), due.applyAsInt(assignment));
+        }
     }
 
     private static void namesThatAreCommands() {

@@ -1,3 +1,5 @@
+import java.util.function.ToIntFunction;
+
 /** Promises 34 to 40: functions are added and dropped. */
 final class NewFunctionsTest {
     private static final int[] NO_FUNCTIONS = {-1, 4, 12, Integer.MIN_VALUE, Integer.MAX_VALUE};
@@ -21,7 +23,9 @@ final class NewFunctionsTest {
     }
 
     /** The function is the last one, is equal to a formula, has no name, and is one change. */
-    private static void added(DecisionDiagrams x, int number, String formula) {
+    private static void added(ToIntFunction<DecisionDiagrams> call, String formula) {
+        DecisionDiagrams x = four();
+        int number = call.applyAsInt(x);
         int functions = x.count(1);
         Check.equal("number of " + formula, number, functions - 1);
         Check.equal("no name for " + formula, x.function(number, 4), 0);
@@ -40,15 +44,16 @@ final class NewFunctionsTest {
 
     /** Promise 34. */
     private static void combine() {
-        DecisionDiagrams x = four();
         String[] formulas = {"f&h", "f|h", "f^h", "f>h", "f=h", "f&!h"};
         String[] others = {"h&f", "h|f", "h^f", "h>f", "h=f", "h&!f"};
         String[] alone = {"h", "h", "0", "1", "1", "0"};
-        for (int operator = 0; operator < 6; operator++) {
-            added(x, x.combine(operator, 0, 2), formulas[operator]);
-            added(x, x.combine(operator, 2, 0), others[operator]);
-            added(x, x.combine(operator, 2, 2), alone[operator]);
+        for (int i = 0; i < 6; i++) {
+            int operator = i;
+            added(x -> x.combine(operator, 0, 2), formulas[operator]);
+            added(x -> x.combine(operator, 2, 0), others[operator]);
+            added(x -> x.combine(operator, 2, 2), alone[operator]);
         }
+        DecisionDiagrams x = four();
         for (int f : NO_FUNCTIONS) {
             Check.raises("combine", IndexOutOfBoundsException.class, () -> x.combine(0, f, 0));
             Check.raises("combine", IndexOutOfBoundsException.class, () -> x.combine(0, 0, f));
@@ -62,11 +67,11 @@ final class NewFunctionsTest {
 
     /** Promise 35. */
     private static void choose() {
+        added(x -> x.choose(0, 1, 3), "if(a,b,i)");
+        added(x -> x.choose(3, 0, 1), "if(i,a,b)");
+        added(x -> x.choose(2, 2, 2), "h");
+        added(x -> x.choose(2, 0, 0), "a");
         DecisionDiagrams x = four();
-        added(x, x.choose(0, 1, 3), "if(a,b,i)");
-        added(x, x.choose(3, 0, 1), "if(i,a,b)");
-        added(x, x.choose(2, 2, 2), "h");
-        added(x, x.choose(2, 0, 0), "a");
         for (int f : NO_FUNCTIONS) {
             Check.raises("choose", IndexOutOfBoundsException.class, () -> x.choose(f, 0, 0));
             Check.raises("choose", IndexOutOfBoundsException.class, () -> x.choose(0, f, 0));
@@ -77,10 +82,10 @@ final class NewFunctionsTest {
 
     /** Promise 36. */
     private static void negate() {
+        added(x -> x.negate(0), "!a");
+        added(x -> x.negate(2), "!h");
+        added(x -> x.negate(3), "!i");
         DecisionDiagrams x = four();
-        added(x, x.negate(0), "!a");
-        added(x, x.negate(2), "!h");
-        added(x, x.negate(3), "!i");
         for (int f : NO_FUNCTIONS) {
             Check.raises("negate", IndexOutOfBoundsException.class, () -> x.negate(f));
         }
@@ -89,14 +94,14 @@ final class NewFunctionsTest {
 
     /** Promise 37. */
     private static void restrict() {
+        added(x -> x.restrict(2, 0, true), "b|c");
+        added(x -> x.restrict(2, 0, false), "c");
+        added(x -> x.restrict(2, 1, true), "a|c");
+        added(x -> x.restrict(2, 2, true), "1");
+        added(x -> x.restrict(2, 2, false), "a&b");
+        added(x -> x.restrict(3, 1, true), "!(a^c)");
+        added(x -> x.restrict(0, 1, true), "a");
         DecisionDiagrams x = four();
-        added(x, x.restrict(2, 0, true), "b|c");
-        added(x, x.restrict(2, 0, false), "c");
-        added(x, x.restrict(2, 1, true), "a|c");
-        added(x, x.restrict(2, 2, true), "1");
-        added(x, x.restrict(2, 2, false), "a&b");
-        added(x, x.restrict(3, 1, true), "!(a^c)");
-        added(x, x.restrict(0, 1, true), "a");
         for (int f : NO_FUNCTIONS) {
             Check.raises("restrict", IndexOutOfBoundsException.class, () -> x.restrict(f, 0, true));
         }
@@ -108,16 +113,16 @@ final class NewFunctionsTest {
 
     /** Promise 38. */
     private static void quantify() {
+        added(x -> x.quantify(2, 0, true), "all a h");
+        added(x -> x.quantify(2, 0, true), "c");
+        added(x -> x.quantify(2, 0, false), "b|c");
+        added(x -> x.quantify(2, 2, true), "a&b");
+        added(x -> x.quantify(2, 2, false), "1");
+        added(x -> x.quantify(3, 1, true), "0");
+        added(x -> x.quantify(3, 1, false), "1");
+        added(x -> x.quantify(0, 2, true), "a");
+        added(x -> x.quantify(0, 2, false), "a");
         DecisionDiagrams x = four();
-        added(x, x.quantify(2, 0, true), "all a h");
-        added(x, x.quantify(2, 0, true), "c");
-        added(x, x.quantify(2, 0, false), "b|c");
-        added(x, x.quantify(2, 2, true), "a&b");
-        added(x, x.quantify(2, 2, false), "1");
-        added(x, x.quantify(3, 1, true), "0");
-        added(x, x.quantify(3, 1, false), "1");
-        added(x, x.quantify(0, 2, true), "a");
-        added(x, x.quantify(0, 2, false), "a");
         for (int f : NO_FUNCTIONS) {
             Check.raises("quantify", IndexOutOfBoundsException.class, () -> x.quantify(f, 0, true));
         }
@@ -129,14 +134,14 @@ final class NewFunctionsTest {
 
     /** Promise 39. */
     private static void compose() {
+        added(x -> x.compose(2, 0, 1), "b|c");
+        added(x -> x.compose(2, 2, 0), "a&b|a");
+        added(x -> x.compose(2, 2, 3), "a&b|(a^b^c)");
+        added(x -> x.compose(3, 0, 2), "(a&b|c)^b^c");
+        added(x -> x.compose(2, 0, 0), "h");
+        added(x -> x.compose(2, 0, 2), "(a&b|c)&b|c");
+        added(x -> x.compose(0, 1, 3), "a");
         DecisionDiagrams x = four();
-        added(x, x.compose(2, 0, 1), "b|c");
-        added(x, x.compose(2, 2, 0), "a&b|a");
-        added(x, x.compose(2, 2, 3), "a&b|(a^b^c)");
-        added(x, x.compose(3, 0, 2), "(a&b|c)^b^c");
-        added(x, x.compose(2, 0, 0), "h");
-        added(x, x.compose(2, 0, 2), "(a&b|c)&b|c");
-        added(x, x.compose(0, 1, 3), "a");
         for (int f : NO_FUNCTIONS) {
             Check.raises("compose", IndexOutOfBoundsException.class, () -> x.compose(f, 0, 0));
             Check.raises("compose", IndexOutOfBoundsException.class, () -> x.compose(0, 0, f));

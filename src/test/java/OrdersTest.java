@@ -18,17 +18,17 @@ final class OrdersTest {
 
     /** Promise 31. */
     private static void sizeIf() {
-        DecisionDiagrams x = Texts.system(PARTNERS);
-        Check.equal("where it is", x.sizeIf(0, 0), 14);
+        Check.equal("where it is", Texts.system(PARTNERS).sizeIf(0, 0), 14);
         for (int variable = 0; variable < 6; variable++) {
             for (int level = 0; level < 6; level++) {
+                DecisionDiagrams x = Texts.system(PARTNERS);
                 int size = x.sizeIf(variable, level);
                 Check.equal("no change", x.count(6), 0);
                 Check.equal("the order stays", Texts.order(x), "a,c,e,b,d,f");
                 Check.equal("size as for move", x.move(variable, level), size);
-                x.undo();
             }
         }
+        DecisionDiagrams x = Texts.system(PARTNERS);
         for (int none : new int[] {-1, 6, 8, Integer.MIN_VALUE, Integer.MAX_VALUE}) {
             Check.raises("sizeIf", IndexOutOfBoundsException.class, () -> x.sizeIf(none, 0));
             Check.raises("sizeIf", IndexOutOfBoundsException.class, () -> x.sizeIf(0, none));

@@ -88,12 +88,12 @@ final class RandomRunsTest {
             return FAR[random.nextInt(FAR.length)];
         }
         int bound = switch (kind) {
-            case 'f' -> x.count(1);
-            case 'v' -> x.count(0);
-            case 'n' -> x.count(2) + 2;
+            case 'f' -> reference.functionNames().size();
+            case 'v' -> reference.variableNames().size();
+            case 'n' -> reference.count(2) + 2;
             case 'w' -> 6;
-            case 'a' -> 1 << x.count(0);
-            case 'i' -> 1 + (1 << x.count(0)) / 2;
+            case 'a' -> 1 << reference.variableNames().size();
+            case 'i' -> 1 + (1 << reference.variableNames().size()) / 2;
             case 'p' -> 99;
             case 'b' -> 2;
             default -> lengthWritten;

@@ -353,13 +353,12 @@ final class TermsSentences {
     private static void nothingDifferent(Supplier<DecisionDiagrams> world, List<Consumer<DecisionDiagrams>> changes) {
         for (Consumer<DecisionDiagrams> change : changes) {
             DecisionDiagrams x = world.get();
-            String state = Seen.STATE.of(x);
             int before = x.count(6);
             change.accept(x);
-            Check.equal("nothing is different", Seen.STATE.of(x), state);
+            Check.equal("nothing is different", Seen.STATE.of(x), Seen.STATE.of(world.get()));
             Check.equal("one more change", x.count(6), before + 1);
             Check.equal("undo", x.undo(), before);
-            Check.equal("as before", Seen.STATE.of(x), state);
+            Check.equal("all is as before", Seen.HISTORY.of(x), Seen.HISTORY.of(world.get()));
         }
     }
 

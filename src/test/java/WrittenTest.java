@@ -1,3 +1,6 @@
+import java.util.Map;
+import java.util.TreeMap;
+
 /** Promises 51 to 53: written texts. */
 final class WrittenTest {
     public static void main(String[] args) {
@@ -62,32 +65,48 @@ final class WrittenTest {
         Check.raises("it is shorter", IndexOutOfBoundsException.class, () -> x.textByte(5));
     }
 
+    /** Six functions with more than 110 nodes. */
+    private static DecisionDiagrams large() {
+        DecisionDiagrams x = Texts.system("vars a b c d e f g h;");
+        Texts.script(x, "let z (a&b^c&d^e&f^g&h)|(a&d&g)^(b&e&h)^(c&f&a)^(d&g&b);let y if(z,a^h,b&g|c&e);"
+                + "let x if(y,z&c,!z^d&f);let w if(a^z,x|b,y&!c^h);let v if(c^h,w^a,x^y);let u if(g,v^z,w&b|x&d);");
+        return x;
+    }
+
     /** Numbers of nodes of two and three digits. */
     private static void longNumbers() {
-        DecisionDiagrams x = Texts.system("vars a b c d e f g h;");
-        String hidden = "let z (a&b^c&d^e&f^g&h)|(a&d&g)^(b&e&h)^(c&f&a)^(d&g&b);let y if(z,a^h,b&g|c&e);"
-                + "let x if(y,z&c,!z^d&f);let w if(a^z,x|b,y&!c^h);let v if(c^h,w^a,x^y);let u if(g,v^z,w&b|x&d);";
-        Texts.script(x, hidden);
-        Check.report(x.count(2) > 110, "the diagram has " + x.count(2) + " nodes, more than 110 are wanted");
+        int size = large().count(2);
+        Check.report(size > 110, "the diagram has " + size + " nodes, more than 110 are wanted");
         for (int f = 0; f < 6; f++) {
-            StringBuilder due = new StringBuilder().append(x.function(f, 0));
-            boolean[] reached = new boolean[x.count(2) + 2];
-            reach(x, x.function(f, 0), reached);
-            for (int node = 2; node < reached.length; node++) {
-                if (reached[node]) {
-                    due.append(';').append(node).append(':').append((char) ('a' + x.node(node, 0))).append(' ')
-                            .append(x.node(node, 1)).append(',').append(x.node(node, 2));
-                }
-            }
-            Check.equal("function " + f, Texts.function(x, f), due.toString());
+            DecisionDiagrams x = large();
+            Map<Integer, String> nodes = new TreeMap<>();
+            reach(x, x.function(f, 0), nodes);
+            Check.equal("function " + f, longText(f), x.function(f, 0) + String.join("", nodes.values()));
         }
     }
 
-    private static void reach(DecisionDiagrams x, int node, boolean[] reached) {
-        if (node > 1 && !reached[node]) {
-            reached[node] = true;
-            reach(x, x.node(node, 1), reached);
-            reach(x, x.node(node, 2), reached);
+    private static void reach(DecisionDiagrams x, int node, Map<Integer, String> nodes) {
+        if (node > 1 && !nodes.containsKey(node)) {
+            int low = x.node(node, 1);
+            int high = x.node(node, 2);
+            nodes.put(node, ";" + node + ":" + (char) ('a' + x.node(node, 0)) + " " + low + "," + high);
+            reach(x, low, nodes);
+            reach(x, high, nodes);
         }
+    }
+
+    /** The text of a function, from objects that are asked for 400 bytes each. */
+    private static String longText(int f) {
+        StringBuilder text = new StringBuilder();
+        int length = large().writeFunction(f);
+        while (text.length() < length) {
+            DecisionDiagrams x = large();
+            x.writeFunction(f);
+            int end = Math.min(length, text.length() + 400);
+            for (int index = text.length(); index < end; index++) {
+                text.append((char) x.textByte(index));
+            }
+        }
+        return text.toString();
     }
 }
