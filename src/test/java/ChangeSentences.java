@@ -80,6 +80,15 @@ final class ChangeSentences {
             for (int operator = 0; operator < 6; operator++) {
                 values("operator " + operator, x, operator + 2, due[operator]);
             }
+            int[] models = {64, 192, 128, 192, 128, 64};
+            DecisionDiagrams y = Texts.system(EIGHT + "let i g;let j h;");
+            for (int operator = 0; operator < 6; operator++) {
+                int f = y.combine(operator, 0, 1);
+                Check.equal("g and h, " + operator, y.function(f, 2), models[operator]);
+                for (int both = 0; both < 4; both++) {
+                    Check.equal("g and h, " + operator, y.value(f, both << 6), due[operator].charAt(both) - '0');
+                }
+            }
         });
         Holds.holds("- `operator`: 0 f & g, 1 f | g, 2 f ^ g, 3 f > g, 4 f = g, 5 f & !g", () -> {
             String[] swapped = {"0001", "0111", "0110", "1101", "1001", "0010"};
@@ -125,6 +134,12 @@ final class ChangeSentences {
                     values("if(1,b,c)", x, x.choose(4, 1, 2), "00110011");
                     values("if(a,a,a)", x, x.choose(0, 0, 0), "01010101");
                     values("if(maj,1,a)", x, x.choose(3, 4, 0), "01010111");
+                    DecisionDiagrams y = Texts.system(EIGHT + "let i g;let j h;let k a;let l !a;");
+                    Check.equal("if(g,h,a)", y.support(y.choose(0, 1, 2)), 193);
+                    Check.equal("if(h,a,!a) is h=a", y.function(y.choose(1, 2, 3), 2), 128);
+                    Check.equal("for a and h alone", y.value(5, 129), 1);
+                    Check.equal("for h without a", y.value(5, 128), 0);
+                    Check.equal("for neither", y.value(5, 64), 1);
                 });
         Holds.holds(F, () -> Edges.functionsThereToAdd("f", (x, f) -> x.choose(f, 0, 0)));
         Holds.holds(G, () -> Edges.functionsThereToAdd("g", (x, g) -> x.choose(0, g, 0)));
@@ -146,6 +161,10 @@ final class ChangeSentences {
             values("!maj", x, x.negate(3), "11101000");
             values("!1", x, x.negate(4), "00000000");
             values("!!1", x, x.negate(7), "11111111");
+            DecisionDiagrams y = Texts.system(EIGHT + "let i g&h;");
+            Check.equal("!(g&h)", y.function(y.negate(0), 2), 192);
+            Check.equal("for g alone", y.value(1, 64), 1);
+            Check.equal("for g and h", y.value(1, 192), 0);
         });
         Holds.holds(F, () -> Edges.functionsThereToAdd("f", DecisionDiagrams::negate));
         Holds.holds(NO_FUNCTION, () -> Edges.noFunction("f", DecisionDiagrams::negate));
@@ -231,6 +250,9 @@ final class ChangeSentences {
             values("a with c for a", x, x.compose(0, 0, 2), "00001111");
             values("a with c for b", x, x.compose(0, 1, 2), "01010101");
             values("a with a for a", x, x.compose(0, 0, 0), "01010101");
+            DecisionDiagrams z = Texts.system(EIGHT + "let i g&h;let j a|g;");
+            Check.equal("g&h with a|g for h is g", z.support(z.compose(0, 7, 1)), 64);
+            Check.equal("g&h with a|g for g is (a|g)&h", z.function(z.compose(0, 6, 1), 2), 96);
             // g depends on the variable itself: !a&b|c with !a for a is a&b|c
             DecisionDiagrams y = Texts.system("vars a b c;let f !a&b|c;let g !a;");
             values("with itself", y, y.compose(0, 0, 1), "00011111");

@@ -226,6 +226,8 @@ final class KeptSentences {
             Check.equal("a&b", Texts.function(x, 3), "3;3:a 0,4;4:b 0,1");
             Check.equal("a root with the highest number", Texts.function(x, 4), "5;2:b 1,0;4:b 0,1;5:a 2,4");
         });
+        Holds.holds("the number of its root, and for each inner node that is reached from it, by ascending numbers,",
+                WrittenTest::longNumbers);
         Holds.holds("a semicolon (byte 59), the number of the node, a colon (byte 58), the name of its variable, a space "
                 + "(byte 32), the number of the low child, a comma (byte 44) and the number of the high child.", () -> {
             DecisionDiagrams x = Texts.system("vars xy;let f xy;");

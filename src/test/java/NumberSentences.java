@@ -234,7 +234,9 @@ final class NumberSentences {
     private static void find() {
         Holds.promise(11);
         Holds.holds("Returns the function whose name is the whole buffer", () -> {
-            DecisionDiagrams x = Texts.system("vars a;let b a;let bc a;let abcdefg a;");
+            DecisionDiagrams x = Texts.system("vars x;let b x;let bc x;let abcdefg x;let az x;let za x;");
+            Check.equal("the first and the last letter", Texts.find(x, "az"), 3);
+            Check.equal("the last and the first letter", Texts.find(x, "za"), 4);
             Check.equal("one letter", Texts.find(x, "b"), 0);
             Check.equal("two letters", Texts.find(x, "bc"), 1);
             Check.equal("seven letters", Texts.find(x, "abcdefg"), 2);

@@ -254,6 +254,11 @@ final class OrderSentences {
             }
             Check.equal("order", Texts.order(x), Texts.order(byHand));
             Check.equal("size", x.count(2), 6);
+            // the sequences are b, c, a and c, a, d, b
+            Check.equal("without the last one", sifted("vars a b c;let p a=b&c;", 1, 2), "a,b,c");
+            Check.equal("with the last one", siftedAll("vars a b c;let p a=b&c;"), "b,c,a");
+            Check.equal("without the first one", sifted("vars a b c d;let p if(c,a,d);", 0, 3, 1), "b,c,a,d");
+            Check.equal("with the first one", siftedAll("vars a b c d;let p if(c,a,d);"), "c,a,b,d");
         });
         Holds.holds(SIZE_THEN, () -> {
             Check.equal("from 14", partners().siftAll(), 6);

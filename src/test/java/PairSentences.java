@@ -231,6 +231,9 @@ final class PairSentences {
             y.sizeOf(2, 0, 1);
             Check.equal("nothing is added", Seen.STATE.of(y), before);
             Check.equal("no matter what else is in the diagram", y.sizeOf(0, 2, 2), 0);
+            y.quantify(1, 2, false);
+            y.compose(0, 0, 1);
+            Check.equal("no matter what was called before", y.sizeOf(0, 2, 2), 0);
         });
     }
 

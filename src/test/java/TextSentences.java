@@ -1,3 +1,5 @@
+import java.util.function.Consumer;
+
 /** Terms 3, sentence by sentence: tokens, the grammar, formulas and errors. */
 final class TextSentences {
     private static final String TWELVE = "vars a;let b a;let c a;let d a;let e a;let f a;let g a;let h a;let i a;let j a;"
@@ -106,6 +108,9 @@ final class TextSentences {
                 + "is a token of its own.", () -> {
             wrong("swapa 0;", 1, 0);
             wrong("swap0 0;", 1, 6);
+            wrong("zwap 0;", 1, 0);
+            wrong("swaz 0;", 1, 0);
+            wrong("swa 0;", 1, 0);
             wrong("cost a 1a;", 1, 8);
             wrong("cost az 1;", 3, 5);
             wrong("cost a1 1;", 1, 8);
@@ -341,6 +346,9 @@ final class TextSentences {
         Holds.holds("| \"if\" \"(\" formula \",\" formula \",\" formula \")\" | \"0\" | \"1\" | VARIABLE | FUNCTION", () -> {
             formula("if(a,b,c)", "00011011");
             formula("if(a=b,a>b,if(c,0,1))", "11111001");
+            formula("if(a,b=c,0)", "01000001");
+            formula("if(a,0,b=c)", "10000010");
+            formula("if(b=c,a,0)", "01000001");
             formula("0", "00000000");
             formula("1", "11111111");
             formula("c", "00001111");
@@ -461,14 +469,16 @@ final class TextSentences {
         });
         Holds.holds("\"drop\", \"swap\", \"move\", \"sift\" and \"siftall\" do what the methods drop, swap, move, sift and "
                 + "siftAll do, \"cost\" and \"percent\" what setCost and setPercent do.", () -> {
-            asByMethod("drop maj;", x -> x.drop(0));
+            asByMethod("drop g;", x -> x.drop(0));
+            asByMethod("drop h;", x -> x.drop(1));
             asByMethod("swap 0;", x -> x.swap(0));
-            asByMethod("swap 1;", x -> x.swap(1));
-            asByMethod("move a 2;", x -> x.move(0, 2));
-            asByMethod("move c 0;", x -> x.move(2, 0));
-            asByMethod("sift b;", x -> x.sift(1));
+            asByMethod("swap 4;", x -> x.swap(4));
+            asByMethod("move a 5;", x -> x.move(0, 5));
+            asByMethod("move f 1;", x -> x.move(5, 1));
+            asByMethod("sift a;", x -> x.sift(0));
+            asByMethod("sift e;", x -> x.sift(2));
             asByMethod("siftall;", DecisionDiagrams::siftAll);
-            asByMethod("cost c 99;", x -> x.setCost(2, 99));
+            asByMethod("cost f 99;", x -> x.setCost(5, 99));
             asByMethod("percent a 100;", x -> x.setPercent(0, 100));
             DecisionDiagrams x = Texts.system("vars a c e b d f;let g a&b|c&d|e&f;");
             Texts.script(x, "sift b;");
@@ -478,10 +488,14 @@ final class TextSentences {
         });
     }
 
-    private static void asByMethod(String script, java.util.function.Consumer<DecisionDiagrams> method) {
-        DecisionDiagrams x = new DecisionDiagrams();
+    /** The same by a script and by a method, where a change of the order shows. */
+    private static void asByMethod(String script, Consumer<DecisionDiagrams> method) {
+        String system = "vars a c e b d f;let g a&b|c&d|e&f;let h e^b;";
+        DecisionDiagrams x = Texts.system(system);
         method.accept(x);
-        Check.equal(script, Seen.HISTORY.of(right(script)), Seen.HISTORY.of(x));
+        DecisionDiagrams y = Texts.system(system);
+        Texts.script(y, script);
+        Check.equal(script, Seen.HISTORY.of(y), Seen.HISTORY.of(x));
     }
 
     private static void positions() {
@@ -664,6 +678,13 @@ final class TextSentences {
             }
             String many = "cost a 1;".repeat(30);
             Refused.text(Worlds::busy, many + "cost a 2;", DecisionDiagrams::script, 5, many.length());
+            DecisionDiagrams x = new DecisionDiagrams();
+            for (int times = 0; times < 3; times++) {
+                Texts.put(x, "let z " + "!".repeat(594));
+                Check.raises("no operand", IllegalArgumentException.class, x::script);
+            }
+            Texts.script(x, "let z " + "!".repeat(591) + "a;");
+            Check.equal("a right text then", Texts.values(x, 2), "10101010");
             Refused.text(Worlds::busy, TWELVE + "let n a;", DecisionDiagrams::load, 5, TWELVE.length());
         });
     }

@@ -28,6 +28,11 @@ final class ValueSentences {
         return Texts.system(EIGHT + "let i 0;let j 1;let k h;let l " + ALL_OF_EIGHT + ";let m " + ODD_OF_EIGHT + ";");
     }
 
+    /** At least one of eight variables: a path of eight low children. */
+    private static DecisionDiagrams any() {
+        return Texts.system(EIGHT + "let i " + ALL_OF_EIGHT.replace('&', '|') + ";");
+    }
+
     private static void value() {
         Holds.promise(13);
         Holds.holds("Returns the value of a function.", () -> {
@@ -223,6 +228,8 @@ final class ValueSentences {
             DecisionDiagrams x = new DecisionDiagrams();
             Check.equal("maj to 0", x.paths(0, 0), 3);
             Check.equal("maj to 1", x.paths(0, 1), 3);
+            Check.equal("eight low children", any().paths(0, 0), 1);
+            Check.equal("a high child below each low one", any().paths(0, 1), 8);
             DecisionDiagrams y = Texts.system("vars a b c;let f (a=b)&c;");
             Check.equal("(a=b)&c to 0", y.paths(0, 0), 4);
             Check.equal("(a=b)&c to 1", y.paths(0, 1), 2);
@@ -248,6 +255,8 @@ final class ValueSentences {
         Holds.promise(19);
         Holds.holds("Returns the fewest inner nodes on a path from the root of a function to a leaf.", () -> {
             DecisionDiagrams x = Texts.system("vars a b c d;let f if(a,b&c&d,b|c);let g if(a,b|c,b&c&d);");
+            Check.equal("eight low children", any().shortest(0, 0), 8);
+            Check.equal("the first high child", any().shortest(0, 1), 1);
             Check.equal("by the low child to 1", x.shortest(0, 1), 2);
             Check.equal("by the high child to 0", x.shortest(0, 0), 2);
             Check.equal("by the high child to 1", x.shortest(1, 1), 2);
@@ -269,6 +278,7 @@ final class ValueSentences {
         Holds.promise(20);
         Holds.holds("Returns the most inner nodes on a path from the root of a function to a leaf.", () -> {
             DecisionDiagrams x = Texts.system("vars a b c d;let f if(a,b,c&d);let g if(a,c&d,b);let h a&(b=c)&d;");
+            Check.equal("eight low children", any().longest(0), 8);
             Check.equal("by the low child", x.longest(0), 3);
             Check.equal("by the high child", x.longest(1), 3);
             Check.equal("all four", x.longest(2), 4);
@@ -360,6 +370,7 @@ final class ValueSentences {
             Check.exactly("maj", x.chance(0), 0.5);
             Check.exactly("odd", x.chance(1), 0.5);
             Check.exactly("all of eight", five().chance(3), 1.0 / 256.0);
+            Check.exactly("one of eight", any().chance(0), 255.0 / 256.0);
         });
         Holds.holds("The chance of leaf 0 is 0.0, that of leaf 1 is 1.0.", () -> {
             Check.exactly("0", five().chance(0), 0.0);

@@ -74,7 +74,7 @@ final class WrittenTest {
     }
 
     /** Numbers of nodes of two and three digits. */
-    private static void longNumbers() {
+    static void longNumbers() {
         int size = large().count(2);
         Check.report(size > 110, "the diagram has " + size + " nodes, more than 110 are wanted");
         for (int f = 0; f < 6; f++) {
