@@ -1426,7 +1426,11 @@ public final class DecisionDiagrams {
             int variable = takesVariable(kind) ? readVariable() : NONE;
             switch (kind) {
                 case LET:
-                    defineFunction();
+                    long name = readNewName();
+                    values.words = draft.tables.words;
+                    formula(0, 0, 0);
+                    draft.tables.copyRow(draft.functions, values, 0);
+                    draft.addFunction(name);
                     break;
                 case COST:
                     draft.costs[variable] = readNumber(MAX_COST);
@@ -1476,15 +1480,12 @@ public final class DecisionDiagrams {
             return tokens.isWord("siftall") ? SIFT_ALL : NONE;
         }
 
-        private void defineFunction() {
+        private long readNewName() {
             failIf(!tokens.isName(), NOT_ALLOWED);
             long name = tokens.word;
             failIf(draft.variableNamed(name) != NONE || draft.functionNamed(name) != NONE, KNOWN_NAME);
             tokens.advance();
-            values.words = draft.tables.words;
-            formula(0, 0, 0);
-            draft.tables.copyRow(draft.functions, values, 0);
-            draft.addFunction(name);
+            return name;
         }
 
         private void expectSign(char sign) {

@@ -27,6 +27,11 @@ final class FaceTest {
         Check.equal("face", String.join("\n", new TreeSet<>(face())), String.join("\n", new TreeSet<>(due)));
         Check.equal("the class", Modifier.toString(FACE.getModifiers()), "public final");
         Check.equal("no package", FACE.getPackageName(), "");
+        for (Method method : FACE.getDeclaredMethods()) {
+            Check.report(Modifier.isPublic(method.getModifiers())
+                    || due.stream().noneMatch(line -> line.contains(" " + method.getName() + "(")),
+                    "the private method " + method.getName() + " has the name of a public one");
+        }
         for (Class<?> inside : FACE.getDeclaredClasses()) {
             Check.report(Modifier.isStatic(inside.getModifiers()) && !Modifier.isPublic(inside.getModifiers()),
                     inside + " shows");
